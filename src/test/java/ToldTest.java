@@ -1,0 +1,158 @@
+/** Promises 21 and 22: told looks, draws. */
+public final class ToldTest {
+    private static final Due due = new Due("ToldTest");
+
+    public static void main(String[] args) {
+        howMany();
+        sureBy();
+        most();
+        drawn();
+        wrongOnes();
+        due.end();
+    }
+
+    private static void howMany() {
+        StoneInLentils x = new StoneInLentils();
+        Due.bytes(x, 0);
+        due.is("21: no look told, one row of none", x.who(0, 0, 0, 0), 1);
+        Due.bytes(x, 0, 0);
+        due.is("21: nobody can have looked", x.who(0, 0, 0, 0), 0);
+        x.looker(600);
+        x.looker(0);
+        x.looker(1200);
+        due.is("21: all of them", x.who(0, 0, 0, 0), 3);
+        Due.bytes(x, 0, 1);
+        due.is("21: looker 1 finds none", x.who(0, 0, 0, 0), 2);
+        Due.bytes(x, 0, 1, 1);
+        // looker 2 leaves none behind, so it can be last alone
+        due.is("21: 0 0 and 0 2", x.who(0, 0, 0, 0), 2);
+        Due.bytes(x, 0, 1, 1, 2);
+        due.is("21: four were never in", x.who(0, 0, 0, 0), 0);
+        Due.bytes(x, 0, 4);
+        due.is("21: four are never found", x.who(0, 0, 0, 0), 0);
+        Due.bytes(x, 0, -1);
+        due.is("21: less than none is never found", x.who(0, 0, 0, 0), 0);
+        Due.bytes(x, 0, 0, 0, 0, 0, 3);
+        due.is("21: four count", x.who(0, 0, 0, 0), 81);
+        for (int j = 0; j < 4; j++) x.mend(1, j, 0);
+        Due.bytes(x, 0, 1);
+        due.is("21: no stone may be in", x.who(0, 1, 0, 0), 0);
+        due.is("21: SURE BY of no row", x.who(0, 1, 1, 0), 0);
+        due.is("21: MOST of no row", x.who(0, 1, 2, 0), -2);
+    }
+
+    private static void sureBy() {
+        StoneInLentils x = new StoneInLentils();
+        x.looker(600);
+        x.looker(0);
+        x.looker(1200);
+        Due.bytes(x, 0, 1, 1);
+        due.is("21: sure by 0", x.who(0, 0, 1, 0), 1);
+        due.is("21: by 0 or 2", x.who(0, 0, 1, 1), 0);
+        Due.tell(x, "k=2&n=1?12;0");
+        Due.bytes(x, 0, 0, 2);
+        due.is("21: by the law", x.who(0, 0, 0, 0), 3);
+        due.is("21: anybody", x.who(0, 0, 1, 0), 0);
+        due.is("21: sure by 2", x.who(0, 0, 1, 1), 4);
+    }
+
+    private static void most() {
+        StoneInLentils x = new StoneInLentils();
+        x.looker(600);
+        x.looker(300);
+        x.looker(900);
+        x.mend(0, 2, 0);
+        x.mend(0, 3, 0);
+        Due.bytes(x, 0, 1);
+        due.is("21: who finds most", x.who(0, 0, 2, 0), 2);
+        Due.bytes(x, 0, 0);
+        due.is("21: who finds least", x.who(0, 0, 2, 0), 1);
+        Due.bytes(x, 0, 0, 1, 0, 0);
+        due.is("21: ahead of it", x.who(0, 0, 2, 0), 1);
+        due.is("21: it", x.who(0, 0, 2, 1), 2);
+        due.is("21: of like ones the first", x.who(0, 0, 2, 2), 0);
+        due.is("21: of like ones the first", x.who(0, 0, 2, 3), 0);
+        due.is("21: any", x.who(0, 0, 0, 3), 81);
+    }
+
+    /** The draws told again, with long remainders in the place of ints that wrap. */
+    private static void drawn() {
+        StoneInLentils x = new StoneInLentils();
+        x.looker(603);
+        x.looker(407);
+        x.mend(1, 0, 2);
+        x.mend(1, 2, 5);
+        x.mend(1, 3, 0);
+        Due.bytes(x, 0, 1, 0, 0, 3, 1, 1);
+        int[] weights = {2, 1, 5, 0};
+        for (int seed : new int[] {0, 1, 7, -1, 123456789, Integer.MIN_VALUE, Integer.MAX_VALUE}) {
+            long z = seed & 0xffffffffL;
+            int left = 0;
+            for (int n = 1; n <= 30; n++) {
+                z = (z * 1103515245L + 12345) & 0xffffffffL;
+                long over = (z >> 8) % 8;
+                int stones = over < 2 ? 0 : over < 3 ? 1 : 2;
+                for (int share : new int[] {4, 6, 4}) {
+                    int found = 0;
+                    for (int i = 0; i < stones; i++) {
+                        z = (z * 1103515245L + 12345) & 0xffffffffL;
+                        if ((z >> 8) % 12 < share) found++;
+                    }
+                    stones -= found;
+                }
+                left += stones;
+                due.is("22: left of " + n, x.drawn(0, seed, 100 + n, 0), left);
+                due.is("22: costs of " + n, x.drawn(0, seed, 100 + n, 1), n * 17 + 100 * left);
+            }
+        }
+        due.is("22: weights", weights[2], x.of(1, 2));
+        for (int j = 0; j < 4; j++) x.mend(2, j, 0);
+        due.is("22: no stones", x.drawn(0, 5, 230, 0), 0);
+        due.is("22: no stones", x.drawn(0, 5, 230, 1), 510);
+        Due.bytes(x, 1);
+        for (int j = 0; j < 3; j++) x.mend(3, j, 0);
+        due.is("22: three each", x.drawn(1, 5, 330, 0), 90);
+        due.is("22: three each", x.drawn(1, 5, 330, 1), 9000);
+        Due.tell(x, "n=2?12;0");
+        Due.bytes(x, 1, 0, 0, 0, 0);
+        due.is("22: two looks", x.drawn(1, 5, 301, 0), 3);
+        Due.bytes(x, 1, 0, 0, 0, 0, 0, 0);
+        due.is("22: the third has two ahead", x.drawn(1, 5, 301, 0), 0);
+    }
+
+    private static void wrongOnes() {
+        StoneInLentils x = new StoneInLentils();
+        x.looker(605);
+        Due.bytes(x, 0, 0, 0, 0);
+        x.row(1, 2, 4);
+        x.body(3);
+        x.keep(2, 0);
+        for (int what = 0; what < 3; what++) {
+            due.is("21: nothing", x.who(3, 0, what, 0), -11);
+            due.is("21: ints", x.who(1, 0, what, 0), -12);
+            due.is("21: a body", x.who(2, 0, what, 0), -12);
+            due.is("21: shelf", x.who(-1, 0, what, 0), -1);
+            due.is("21: shelf", x.who(6, 0, what, 0), -1);
+            due.is("21: bag", x.who(0, -1, what, 0), -1);
+            due.is("21: bag", x.who(0, 4, what, 0), -1);
+            due.is("21: BAD ahead of -11", x.who(3, 4, what, 0), -1);
+        }
+        due.is("21: what", x.who(0, 0, -1, 0), -1);
+        due.is("21: what", x.who(0, 0, 3, 0), -1);
+        for (int k : new int[] {-1, 3, 4, Integer.MAX_VALUE, Integer.MIN_VALUE}) {
+            due.is("21: no such k", x.who(0, 0, 1, k), -1);
+            due.is("21: no such k", x.who(0, 0, 2, k), -1);
+        }
+        due.is("22: nothing", x.drawn(3, 0, 1, 0), -11);
+        due.is("22: ints", x.drawn(1, 0, 1, 0), -12);
+        due.is("22: a body", x.drawn(2, 0, 1, 0), -12);
+        for (int bn : new int[] {-1, 0, 31, 99, 100, 131, 400, 401, Integer.MAX_VALUE, Integer.MIN_VALUE}) {
+            due.is("22: bn " + bn, x.drawn(0, 0, bn, 0), -1);
+            due.is("22: BAD ahead of -11", x.drawn(3, 0, bn, 0), -1);
+        }
+        due.is("22: what", x.drawn(0, 0, 1, 2), -1);
+        due.is("22: what", x.drawn(0, 0, 1, -1), -1);
+        due.is("22: shelf", x.drawn(6, 0, 1, 0), -1);
+        due.is("22: shelf", x.drawn(-1, 0, 1, 0), -1);
+    }
+}
