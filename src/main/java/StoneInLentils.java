@@ -35,7 +35,6 @@ public final class StoneInLentils {
 
     public int looker(int sc) {
         if (sc < 0 || !numbers.mayBe(Numbers.SEES, sc / 100)) return BAD;
-        if (numbers.lookers == MOST_LOOKERS) return FULL;
         return numbers.addLooker(sc / 100, sc % 100);
     }
 
@@ -206,7 +205,6 @@ public final class StoneInLentils {
         if (n < 1 || n > Parting.MOST_HEAPS || m < 0 || m > 999) return BAD;
         if (what < 0 || what > 1 && !numbers.isLooker(what - 2)) return BAD;
         if (numbers.lookers > Parting.MOST_PARTS) return STATE;
-        parting.clear();
         for (int who = 0; who < numbers.lookers; who++) fillParting(who, n);
         parting.search(n, m);
         return what == 0 ? parting.twelfths : what == 1 ? parting.cost : parting.heapsOf(what - 2);
@@ -220,7 +218,6 @@ public final class StoneInLentils {
         int refusal = shelves[shelf].refusalAsBytes();
         if (refusal < 0) return refusal;
         int told = Math.min(MOST_LOOKS, shelves[shelf].size);
-        if (what > 0 && k >= told) return BAD;
         fillShares(witness.shares);
         witness.chances.begin(numbers, bag);
         witness.hear(shelves[shelf], told, numbers.lookers);
@@ -302,8 +299,7 @@ public final class StoneInLentils {
     // ---- acts, shelves
 
     public int body(int kind) {
-        if (!Bodies.isKind(kind)) return BAD;
-        return bodies.size == Bodies.MOST ? FULL : bodies.add(kind);
+        return Bodies.isKind(kind) ? bodies.add(kind) : BAD;
     }
 
     public int act(int body, int act, int x) {
@@ -1132,11 +1128,6 @@ public final class StoneInLentils {
         private final int[] best = new int[MOST_PARTS];
         int twelfths = 0;
         int cost = 0;
-
-        void clear() {
-            for (int i = 0; i < MOST_PARTS; i++) most[i] = 0;
-            for (int i = 0; i < looked.length; i++) looked[i] = 0;
-        }
 
         void add(int who, int heaps, int costOfOne) {
             if (who < 0 || who >= MOST_PARTS) return;

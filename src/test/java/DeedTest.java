@@ -180,5 +180,21 @@ public final class DeedTest {
         due.is("29: forty", x.count(2), 40);
         x.undo();
         due.is("29: it", x.of(0, 10), 44);
+        fortyOfManyBags();
+    }
+
+    /** Forty-five changes of all bags by turns: each goes back and on at its own place. */
+    private static void fortyOfManyBags() {
+        StoneInLentils x = new StoneInLentils();
+        for (int i = 0; i < 45; i++) x.mend(i % 4, 4, 20 + i);
+        for (int i = 44; i >= 5; i--) {
+            due.is("29: undo", x.undo(), i - 5);
+            due.is("29: back at its place", x.of(i % 4, 4), i < 4 ? 10 : 16 + i);
+        }
+        due.is("29: none", x.undo(), -5);
+        for (int i = 5; i < 45; i++) {
+            due.is("30: redo", x.redo(), 44 - i);
+            due.is("30: on at its place", x.of(i % 4, 4), 20 + i);
+        }
     }
 }

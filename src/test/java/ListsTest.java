@@ -115,7 +115,13 @@ public final class ListsTest {
         due.is("19: NOT", x.handful(0, 6060, 1, 1), -2);
         x.mend(0, 1, 0);
         due.is("19: two or three cannot be of one: no stone", x.handful(0, 101, 0, 0), 1);
+        due.is("19: two or three cannot be of one: no stone", x.handful(0, 101, 0, 1), 1);
         due.is("19: two or three cannot be of one: no stone", x.handful(0, 101, 1, 0), 1);
+        due.is("19: two or three cannot be of one: no stone", x.handful(0, 101, 1, 1), 1);
+        for (int j = 0; j < 4; j++) x.mend(1, j, 0);
+        for (int what = 0; what < 2; what++) {
+            for (int part = 0; part < 2; part++) due.is("19: all weights 0", x.handful(1, 3017, what, part), 1);
+        }
         due.is("19: two of two", x.handful(0, 201, 0, 0), 0);
         // two or three of 60, a handful of 58: 2 1 by 60 59 and 0
         due.is("19: of sixty", x.handful(0, 6058, 0, 0), 1);

@@ -67,6 +67,10 @@ public final class ToldTest {
         due.is("21: who finds most", x.who(0, 0, 2, 0), 2);
         Due.bytes(x, 0, 0);
         due.is("21: who finds least", x.who(0, 0, 2, 0), 1);
+        x.mend(0, 0, 9);
+        Due.bytes(x, 0, 1);
+        due.is("21: asked behind what is likelier", x.who(0, 0, 2, 0), 2);
+        x.mend(0, 0, 1);
         Due.bytes(x, 0, 0, 1, 0, 0);
         due.is("21: ahead of it", x.who(0, 0, 2, 0), 1);
         due.is("21: it", x.who(0, 0, 2, 1), 2);
