@@ -231,7 +231,7 @@ public final class StoneInLentils {
         if (n < 1 || n > 30 || what < 0 || what > 1) return BAD;
         int refusal = shelves[shelf].refusalAsBytes();
         if (refusal < 0) return refusal;
-        looks.read(shelves[shelf], numbers.lookers);
+        looks.read(shelves[shelf], numbers.lookers, true);
         draws.z = seed;
         int still = 0;
         for (int i = 0; i < n; i++) still += stillInOneMore(bn / 100);
@@ -509,7 +509,7 @@ public final class StoneInLentils {
 
     /** Goes through the looks of a ROW: how many they are. */
     private int think(int shelf, int bag) {
-        looks.read(shelves[shelf], numbers.lookers);
+        looks.read(shelves[shelf], numbers.lookers, false);
         chances.begin(numbers, bag);
         for (int i = 0; i < looks.size; i++) {
             chances.step(i, twelfths(looks.by(i), i), looks.found(i));
@@ -921,19 +921,24 @@ public final class StoneInLentils {
         private final int[] founds = new int[MOST_LOOKS];
         int size = 0;
 
-        void read(Shelf from, int isThere) {
+        /** Whether a FOUND may be anything is for those who go by the LOOKERS alone. */
+        void read(Shelf from, int isThere, boolean foundAsMayBe) {
             size = 0;
-            while (size < MOST_LOOKS && readTwo(from, isThere)) size++;
+            while (size < MOST_LOOKS && readTwo(from, isThere, foundAsMayBe)) size++;
         }
 
-        private boolean readTwo(Shelf from, int isThere) {
+        private boolean readTwo(Shelf from, int isThere, boolean foundAsMayBe) {
             if (!from.hasPlaces(2 * size, 2)) return false;
             long looker = from.read(2 * size);
             long found = from.read(2 * size + 1);
-            if (looker < 0 || looker >= isThere || found < 0 || found > MOST_STONES) return false;
+            if (looker < 0 || looker >= isThere || !foundAsMayBe && !isFound(found)) return false;
             lookers[size] = (int) looker;
             founds[size] = (int) found;
             return true;
+        }
+
+        static boolean isFound(long found) {
+            return found >= 0 && found <= MOST_STONES;
         }
 
         int by(int i) {
@@ -1069,17 +1074,21 @@ public final class StoneInLentils {
         private final int[] seen = new int[MOST_LOOKS];
         private final int[] best = new int[MOST_LOOKS];
         private int told = 0;
+        /** From here on the looks are none, as of a LOOK row whose FOUND there may not be. */
+        private int ended = 0;
         private int lookers = 0;
         int rows = 0;
         private long greatest = 0;
 
         void hear(Shelf from, int howMany, int isThere) {
             told = Math.max(0, Math.min(MOST_LOOKS, howMany));
+            ended = 0;
             lookers = isThere;
             rows = 0;
             greatest = 0;
             for (int i = 0; i < told; i++) {
                 founds[i] = (int) from.read(i);
+                if (ended == i && Looks.isFound(founds[i])) ended++;
                 seen[i] = 0;
             }
             goOn(0);
@@ -1087,20 +1096,25 @@ public final class StoneInLentils {
 
         private void goOn(int behind) {
             if (behind >= told) {
-                note(behind);
+                note();
                 return;
             }
             for (int who = 0; who < lookers && who < MOST_LOOKERS; who++) {
-                chances.step(behind, shares[who * MOST_LOOKS + behind], founds[behind]);
                 looking[behind] = who;
-                if (chances.all(behind + 1) > 0) goOn(behind + 1);
+                if (canHaveFound(who, behind)) goOn(behind + 1);
             }
         }
 
-        private void note(int behind) {
+        private boolean canHaveFound(int who, int behind) {
+            if (behind >= ended) return true;
+            chances.step(behind, shares[who * MOST_LOOKS + behind], founds[behind]);
+            return chances.all(behind + 1) > 0;
+        }
+
+        private void note() {
             rows++;
             for (int i = 0; i < told; i++) seen[i] |= 1 << looking[i];
-            long likely = chances.all(behind);
+            long likely = chances.all(ended);
             if (likely <= greatest) return;
             greatest = likely;
             System.arraycopy(looking, 0, best, 0, told);

@@ -323,19 +323,36 @@ final class Slow {
     }
 
     List<int[]> looks(int shelf) {
-        long[] row = (long[]) shelves[shelf];
+        return looksOf((long[]) shelves[shelf]);
+    }
+
+    List<int[]> looksOf(long[] row) {
         List<int[]> looks = new ArrayList<>();
-        for (int i = 0; i + 1 < row.length && looks.size() < 4; i += 2) {
-            if (row[i] < 0 || row[i] >= lookers.size() || row[i + 1] < 0 || row[i + 1] > 3) break;
-            looks.add(new int[] {(int) row[i], (int) row[i + 1]});
+        for (int[] two : twos(row)) {
+            if (two[1] < 0 || two[1] > 3) break;
+            looks.add(two);
         }
         return looks;
     }
 
+    /** By twos a LOOKER that is there, and whatever stands behind it. */
+    List<int[]> twos(long[] row) {
+        List<int[]> twos = new ArrayList<>();
+        for (int i = 0; i + 1 < row.length && twos.size() < 4; i += 2) {
+            if (row[i] < 0 || row[i] >= lookers.size()) break;
+            twos.add(new int[] {(int) row[i], (int) row[i + 1]});
+        }
+        return twos;
+    }
+
     Fraction[] behind(int shelf, int bag) {
+        return behindRow((long[]) shelves[shelf], bag);
+    }
+
+    Fraction[] behindRow(long[] row, int bag) {
         Fraction[] p = prior(bag);
         int n = 0;
-        for (int[] look : looks(shelf)) {
+        for (int[] look : looksOf(row)) {
             p = after(p, worked(look[0], n, rest[2]), look[1]);
             n++;
         }
@@ -495,20 +512,21 @@ final class Slow {
         int most = -2;
         Fraction greatest = ZERO;
         for (int r = 0; r < rows; r++) {
-            int[] by = new int[4];
+            long[] twos = new long[8];
             int rest = r;
             for (int i = told - 1; i >= 0; i--) {
-                by[i] = rest % lookers.size();
+                twos[2 * i] = rest % lookers.size();
+                twos[2 * i + 1] = row[i];
                 rest /= lookers.size();
             }
-            Fraction[] p = prior(bag);
-            for (int i = 0; i < told && !sum(p).isZero(); i++) p = after(p, worked(by[i], i, this.rest[2]), (int) row[i]);
-            if (sum(p).isZero()) continue;
+            Fraction likely = sum(behindRow(java.util.Arrays.copyOf(twos, 2 * told), bag));
+            if (likely.isZero()) continue;
             can++;
-            if (k >= 0 && k < 4) sure &= 1 << by[k];
-            if (sum(p).compareTo(greatest) > 0) {
-                greatest = sum(p);
-                most = k >= 0 && k < 4 ? by[k] : most;
+            int kth = k >= 0 && k < 4 ? (int) twos[2 * k] : 0;
+            sure &= 1 << kth;
+            if (likely.compareTo(greatest) > 0) {
+                greatest = likely;
+                most = kth;
             }
         }
         return what == 0 ? can : what == 1 ? (can == 0 ? 0 : sure) : most;
@@ -546,7 +564,7 @@ final class Slow {
         for (int i = 0; i < bn % 100; i++) {
             int stones = stonesOf(bn / 100);
             int n = 0;
-            for (int[] look : looks(shelf)) {
+            for (int[] look : twos((long[]) shelves[shelf])) {
                 stones -= foundOf(stones, worked(look[0], n, rest[2]));
                 cost += lookers.get(look[0])[1];
                 n++;

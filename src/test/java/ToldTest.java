@@ -4,9 +4,11 @@ public final class ToldTest {
 
     public static void main(String[] args) {
         howMany();
+        noFound();
         sureBy();
         most();
         drawn();
+        foundAsMayBe();
         wrongOnes();
         due.end();
     }
@@ -28,10 +30,6 @@ public final class ToldTest {
         due.is("21: 0 0 and 0 2", x.who(0, 0, 0, 0), 2);
         Due.bytes(x, 0, 1, 1, 2);
         due.is("21: four were never in", x.who(0, 0, 0, 0), 0);
-        Due.bytes(x, 0, 4);
-        due.is("21: four are never found", x.who(0, 0, 0, 0), 0);
-        Due.bytes(x, 0, -1);
-        due.is("21: less than none is never found", x.who(0, 0, 0, 0), 0);
         Due.bytes(x, 0, 0, 0, 0, 0, 3);
         due.is("21: four count", x.who(0, 0, 0, 0), 81);
         for (int j = 0; j < 4; j++) x.mend(1, j, 0);
@@ -39,6 +37,33 @@ public final class ToldTest {
         due.is("21: no stone may be in", x.who(0, 1, 0, 0), 0);
         due.is("21: SURE BY of no row", x.who(0, 1, 1, 0), 0);
         due.is("21: MOST of no row", x.who(0, 1, 2, 0), -2);
+    }
+
+    /** A LOOK row ends where its FOUND is none; the LOOKERS from there on may be any. */
+    private static void noFound() {
+        StoneInLentils x = new StoneInLentils();
+        Due.bytes(x, 0, -1);
+        due.is("21: nobody can have looked", x.who(0, 0, 0, 0), 0);
+        x.looker(0);
+        for (int none : new int[] {-1, 4, 127, -128}) {
+            Due.bytes(x, 0, none, 1);
+            due.is("21: the row ends ahead of all looks, by " + none, x.who(0, 0, 0, 0), 1);
+            due.is("21: sure by the one who is there", x.who(0, 0, 1, 1), 1);
+            due.is("21: most by the one who is there", x.who(0, 0, 2, 1), 0);
+            due.is("21: no such k", x.who(0, 0, 2, 2), -1);
+        }
+        x.looker(600);
+        x.looker(900);
+        Due.bytes(x, 0, 4, 3, 3);
+        due.is("21: any of three", x.who(0, 0, 0, 0), 27);
+        due.is("21: any of three", x.who(0, 0, 1, 0), 0);
+        Due.bytes(x, 0, 3, -1, 3, 3, 3);
+        due.is("21: the first finds, the others may be any", x.who(0, 0, 0, 0), 54);
+        due.is("21: likeliest by the look that counts", x.who(0, 0, 2, 0), 2);
+        due.is("21: of like ones the first", x.who(0, 0, 2, 1), 0);
+        x.mend(0, 3, 0);
+        due.is("21: what is ahead of it counts", x.who(0, 0, 0, 0), 0);
+        due.is("21: what is ahead of it counts", x.who(0, 0, 2, 0), -2);
     }
 
     private static void sureBy() {
@@ -122,6 +147,23 @@ public final class ToldTest {
         due.is("22: two looks", x.drawn(1, 5, 301, 0), 3);
         Due.bytes(x, 1, 0, 0, 0, 0, 0, 0);
         due.is("22: the third has two ahead", x.drawn(1, 5, 301, 0), 0);
+    }
+
+    private static void foundAsMayBe() {
+        StoneInLentils x = new StoneInLentils();
+        x.looker(1203);
+        x.looker(7);
+        for (int found : new int[] {0, 3, 4, -1, 127, -128}) {
+            Due.bytes(x, 0, 1, found, 0, found);
+            due.is("22: none is left, whatever FOUND is: " + found, x.drawn(0, 1, 30, 0), 0);
+            due.is("22: both looked, whatever FOUND is: " + found, x.drawn(0, 1, 30, 1), 300);
+        }
+        Due.bytes(x, 0, 1, 9, 2, 0, 0, 0);
+        due.is("22: who is not there ends it", x.drawn(0, 1, 1, 1), 7 + 100 * x.drawn(0, 1, 1, 0));
+        Due.bytes(x, 0, 1, 9, -1, 0, 0, 0);
+        due.is("22: who is not there ends it", x.drawn(0, 1, 1, 1), 7 + 100 * x.drawn(0, 1, 1, 0));
+        Due.bytes(x, 0, 1, 9, 0);
+        due.is("22: half a two is none", x.drawn(0, 1, 1, 1), 7 + 100 * x.drawn(0, 1, 1, 0));
     }
 
     private static void wrongOnes() {
