@@ -217,10 +217,9 @@ public final class StoneInLentils {
         if (what > 0 && (k < 0 || k >= MOST_LOOKS)) return BAD;
         int refusal = shelves[shelf].refusalAsBytes();
         if (refusal < 0) return refusal;
-        int told = Math.min(MOST_LOOKS, shelves[shelf].size);
         fillShares(witness.shares);
         witness.chances.begin(numbers, bag);
-        witness.hear(shelves[shelf], told, numbers.lookers);
+        witness.hear(shelves[shelf], numbers.lookers);
         if (what == 0) return witness.rows;
         return what == 1 ? witness.sureBy(k) : witness.most(k);
     }
@@ -1074,24 +1073,25 @@ public final class StoneInLentils {
         private final int[] seen = new int[MOST_LOOKS];
         private final int[] best = new int[MOST_LOOKS];
         private int told = 0;
-        /** From here on the looks are none, as of a LOOK row whose FOUND there may not be. */
-        private int ended = 0;
         private int lookers = 0;
         int rows = 0;
         private long greatest = 0;
 
-        void hear(Shelf from, int howMany, int isThere) {
-            told = Math.max(0, Math.min(MOST_LOOKS, howMany));
-            ended = 0;
+        void hear(Shelf from, int isThere) {
+            told = 0;
             lookers = isThere;
             rows = 0;
             greatest = 0;
-            for (int i = 0; i < told; i++) {
-                founds[i] = (int) from.read(i);
-                if (ended == i && Looks.isFound(founds[i])) ended++;
-                seen[i] = 0;
-            }
+            while (told < MOST_LOOKS && hearOne(from)) told++;
             goOn(0);
+        }
+
+        /** A byte that is no FOUND is no look, and what stands behind it is not told either. */
+        private boolean hearOne(Shelf from) {
+            if (!from.hasPlace(told) || !Looks.isFound(from.read(told))) return false;
+            founds[told] = (int) from.read(told);
+            seen[told] = 0;
+            return true;
         }
 
         private void goOn(int behind) {
@@ -1106,7 +1106,6 @@ public final class StoneInLentils {
         }
 
         private boolean canHaveFound(int who, int behind) {
-            if (behind >= ended) return true;
             chances.step(behind, shares[who * MOST_LOOKS + behind], founds[behind]);
             return chances.all(behind + 1) > 0;
         }
@@ -1114,7 +1113,7 @@ public final class StoneInLentils {
         private void note() {
             rows++;
             for (int i = 0; i < told; i++) seen[i] |= 1 << looking[i];
-            long likely = chances.all(ended);
+            long likely = chances.all(told);
             if (likely <= greatest) return;
             greatest = likely;
             System.arraycopy(looking, 0, best, 0, told);

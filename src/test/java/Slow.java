@@ -503,7 +503,11 @@ final class Slow {
         if (what > 0 && (k < 0 || k > 3)) return -1;
         if (refusal(shelf) != 0) return refusal(shelf);
         long[] row = (long[]) shelves[shelf];
-        int told = Math.min(4, row.length);
+        int told = 0;
+        for (long found : row) {
+            if (told == 4 || found < 0 || found > 3) break;
+            told++;
+        }
         if (what > 0 && k >= told) return -1;
         int rows = 1;
         for (int i = 0; i < told; i++) rows *= lookers.size();

@@ -39,31 +39,59 @@ public final class ToldTest {
         due.is("21: MOST of no row", x.who(0, 1, 2, 0), -2);
     }
 
-    /** A LOOK row ends where its FOUND is none; the LOOKERS from there on may be any. */
+    /** A TOLD row ends at the first byte that is no FOUND: neither it nor what stands behind it is a look. */
     private static void noFound() {
         StoneInLentils x = new StoneInLentils();
         Due.bytes(x, 0, -1);
-        due.is("21: nobody can have looked", x.who(0, 0, 0, 0), 0);
-        x.looker(0);
-        for (int none : new int[] {-1, 4, 127, -128}) {
-            Due.bytes(x, 0, none, 1);
-            due.is("21: the row ends ahead of all looks, by " + none, x.who(0, 0, 0, 0), 1);
-            due.is("21: sure by the one who is there", x.who(0, 0, 1, 1), 1);
-            due.is("21: most by the one who is there", x.who(0, 0, 2, 1), 0);
-            due.is("21: no such k", x.who(0, 0, 2, 2), -1);
+        due.is("21: no look is told, so nobody need be there", x.who(0, 0, 0, 0), 1);
+        for (int lookers = 1; lookers <= 6; lookers++) {
+            x.looker(100 * lookers);
+            for (int none : new int[] {-1, 4, 127, -128}) {
+                Due.bytes(x, 0, none, 1);
+                due.is("21: one row of no looks, by " + none, x.who(0, 0, 0, 0), 1);
+                due.is("21: k is not asked for", x.who(0, 0, 0, 9), 1);
+                for (int k = 0; k < 4; k++) {
+                    due.is("21: no such k", x.who(0, 0, 1, k), -1);
+                    due.is("21: no such k", x.who(0, 0, 2, k), -1);
+                }
+            }
         }
+        endsBehindOne();
+        endsBehindMore();
+    }
+
+    private static void endsBehindOne() {
+        StoneInLentils x = new StoneInLentils();
+        x.looker(0);
         x.looker(600);
         x.looker(900);
-        Due.bytes(x, 0, 4, 3, 3);
-        due.is("21: any of three", x.who(0, 0, 0, 0), 27);
-        due.is("21: any of three", x.who(0, 0, 1, 0), 0);
         Due.bytes(x, 0, 3, -1, 3, 3, 3);
-        due.is("21: the first finds, the others may be any", x.who(0, 0, 0, 0), 54);
-        due.is("21: likeliest by the look that counts", x.who(0, 0, 2, 0), 2);
-        due.is("21: of like ones the first", x.who(0, 0, 2, 1), 0);
+        due.is("21: the one look ahead of it counts", x.who(0, 0, 0, 0), 2);
+        due.is("21: by 1 or 2", x.who(0, 0, 1, 0), 0);
+        due.is("21: likeliest by 2", x.who(0, 0, 2, 0), 2);
+        due.is("21: it is no look", x.who(0, 0, 1, 1), -1);
+        due.is("21: it is no look", x.who(0, 0, 2, 1), -1);
+        due.is("21: nor is what stands behind it", x.who(0, 0, 2, 2), -1);
+        x.mend(1, 5, 0);
+        due.is("21: sure by 2", x.who(0, 0, 1, 0), 4);
         x.mend(0, 3, 0);
-        due.is("21: what is ahead of it counts", x.who(0, 0, 0, 0), 0);
-        due.is("21: what is ahead of it counts", x.who(0, 0, 2, 0), -2);
+        due.is("21: what is ahead of it must be likely", x.who(0, 0, 0, 0), 0);
+        due.is("21: MOST of no row", x.who(0, 0, 2, 0), -2);
+        due.is("21: no such k, of no row too", x.who(0, 0, 2, 1), -1);
+    }
+
+    private static void endsBehindMore() {
+        StoneInLentils x = new StoneInLentils();
+        x.looker(300);
+        x.looker(600);
+        Due.bytes(x, 0, 0, 0, 4, 0);
+        due.is("21: two looks", x.who(0, 0, 0, 0), 4);
+        Due.bytes(x, 0, 0, 0, 0, 4, 0);
+        due.is("21: three looks", x.who(0, 0, 0, 0), 8);
+        due.is("21: likeliest by 0", x.who(0, 0, 2, 2), 0);
+        due.is("21: no fourth", x.who(0, 0, 2, 3), -1);
+        Due.bytes(x, 0, 0, 0, 0, 0, 4);
+        due.is("21: four count, the fifth is not looked at", x.who(0, 0, 0, 0), 16);
     }
 
     private static void sureBy() {
