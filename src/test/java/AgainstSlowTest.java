@@ -8,13 +8,15 @@ public final class AgainstSlowTest {
     private static Slow slow;
 
     public static void main(String[] args) {
-        int runs = args.length > 0 ? Integer.parseInt(args[0]) : 300;
+        int runs = args.length > 0 ? Integer.parseInt(args[0]) : 450;
         for (int run = 0; run < runs; run++) {
             random = new Random(run);
             x = new StoneInLentils();
             slow = new Slow();
             boolean dear = run % 30 == 0;
-            for (int i = 0; i < 100; i++) step(dear);
+            int ahead = due.asked();
+            // a step takes some 130 calls at most, and an object is good for 512
+            for (int i = 0; i < 100 && due.asked() - ahead < 370; i++) step(dear);
         }
         due.end();
     }
