@@ -13,7 +13,7 @@ public final class EdgesOfListsTest {
         putIn();
         foundOfThem();
         twelfths();
-        sixAlike();
+        likeTwelfths();
         besides();
         thatIsZero();
         together();
@@ -149,8 +149,8 @@ public final class EdgesOfListsTest {
         due.is("eleven of twenty", x.seesFor(2011), 7);
     }
 
-    /** No two twelfths are ever alike, so those that look alike are told apart by their last digits. */
-    private static void sixAlike() {
+    /** No two twelfths are ever alike for the likeliest; where it is a whole number of them, it is just that. */
+    private static void likeTwelfths() {
         due.sentence("(of like ones the least); then of g found besides");
         StoneInLentils x = new StoneInLentils();
         for (int m = 2; m <= 20; m += 2) due.is("a half of " + m, x.seesFor(100 * m + m / 2), 6);

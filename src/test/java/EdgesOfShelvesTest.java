@@ -91,7 +91,7 @@ public final class EdgesOfShelvesTest {
     }
 
     private static void actsThatWrapBelow() {
-        due.sentence("3 tells; n its number");
+        due.sentence("ACTS with x (an int that wraps): 0 picks, 1 finds, 2 leaves, 3 tells; n its number.");
         StoneInLentils x = eight();
         acts(x, 0, LEAST, LEAST, 0, LEAST, -1);
         // three times the least is the least
